@@ -435,7 +435,8 @@ public final class RewriteChecks {
         private void measure(int t) {
             long itsSize = 1;
             long itsWeight = headWeight[head[t]];
-            int within = isVariable(t) ? 1 << head[t] - FIRST_VARIABLE : 0;
+            int v = head[t] - FIRST_VARIABLE;
+            int within = v >= 0 ? 1 << v : 0;
             if (first[t] != NONE) {
                 itsSize += size[first[t]];
                 itsWeight += weight[first[t]];
