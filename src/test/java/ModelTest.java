@@ -6,7 +6,7 @@ import java.util.TreeMap;
 /** Random runs of calls, each answer compared with the model's; the seeds are fixed. */
 public final class ModelTest {
     private static final int RUNS = 1500;
-    private static final int CALLS = 500;
+    private static final int CALLS = 450;
     private static final int THROWN = 1_000_000;
     private static final int NONE = RewriteChecks.NONE;
 

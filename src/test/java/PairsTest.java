@@ -14,7 +14,10 @@ public final class PairsTest {
         joinedNow();
         secondIsNotAsked();
         fullPairs();
+        fullAtTheSecond();
         largeUnifier();
+        manyLargeRules();
+        byWayZero();
         CHECK.finish();
     }
 
@@ -294,5 +297,92 @@ public final class PairsTest {
         for (int k = 0; k < n; k++) {
             due("TERMS", x.pair(k, 3) >= 0 && x.pair(k, 4) >= 0 ? 1 : 0, 1);
         }
+    }
+
+    /** A telling that is refused behind its first PAIR leaves those of the last telling. */
+    private static void fullAtTheSecond() {
+        RewriteChecks x = new RewriteChecks();
+        x.sign(0, 1);
+        x.sign(0, 1);
+        x.sign(1, 1);
+        x.sign(1, 1);
+        int a = x.term(0, 0, 0);
+        int b = x.term(1, 0, 0);
+        int v = x.variable(1);
+        int sv = x.term(2, v, 0);
+        x.rule(a, b);
+        x.rule(a, a);
+        x.rule(b, a);
+        x.rule(b, b);
+        x.rule(sv, v);
+        x.rule(sv, sv);
+        for (int r = 2; r < 6; r++) {
+            x.on(r, false);
+        }
+        due("pairs()", x.pairs(), 2);
+        x.on(0, false);
+        x.on(1, false);
+        x.rule(a, x.term(3, a, 0));
+        int last = a;
+        while (x.count(1) < 1000) {
+            last = x.normal(last, 0) == FULL ? x.step(last, 0) : x.count(1) - 1;
+        }
+        x.on(6, false);
+        for (int r = 2; r < 6; r++) {
+            x.on(r, true);
+        }
+        due("VARIABLE 0 can't be made", x.pairs(), FULL);
+        due("count(3)", x.count(3), 2);
+        duePair("stays", x, 0, 0, 1, 1, a, b);
+        duePair("stays", x, 1, 1, 0, 1, b, a);
+        due("once more", x.pairs(), FULL);
+        duePair("stays", x, 0, 0, 1, 1, a, b);
+        x.on(4, false);
+        due("without it", x.pairs(), 2);
+        duePair("anew", x, 0, 2, 3, 1, b, a);
+    }
+
+    /** 16 RULES of SIZE 30 on both sides, each of 29 PLACES a try: only those at PLACE 1 fit. */
+    private static void manyLargeRules() {
+        RewriteChecks x = new RewriteChecks();
+        x.sign(1, 1);
+        x.sign(1, 1);
+        int v = x.variable(0);
+        int inner = x.term(1, v, 0);
+        for (int k = 0; k < 28; k++) {
+            inner = x.term(0, inner, 0);
+        }
+        for (int r = 0; r < 16; r++) {
+            due("rule " + r, x.rule(inner, inner), r);
+        }
+        due("pairs()", x.pairs(), 60);
+        for (int k = 0; k < 60; k++) {
+            due("the RULE i", x.pair(k, 0), k / 15);
+            due("the RULE j", x.pair(k, 1), k % 15 + (k % 15 >= k / 15 ? 1 : 0));
+            due("the PLACE", x.pair(k, 2), 1);
+            due("the TERMS", x.pair(k, 3) == inner && x.pair(k, 4) == inner ? 1 : 0, 1);
+        }
+    }
+
+    private static void byWayZero() {
+        RewriteChecks x = new RewriteChecks();
+        x.sign(2, 1);
+        x.sign(0, 1);
+        x.sign(0, 1);
+        x.sign(0, 1);
+        int v = x.variable(0);
+        int w = x.variable(1);
+        int a = x.term(1, 0, 0);
+        int b = x.term(2, 0, 0);
+        int c = x.term(3, 0, 0);
+        int fbc = x.term(0, b, c);
+        x.rule(a, b);
+        x.rule(a, fbc);
+        due("pairs()", x.pairs(), 2);
+        x.rule(x.term(0, v, w), v);
+        x.rule(c, c);
+        due("by way 1", x.normal(fbc, 1), OPEN);
+        due("the first by way 0", x.pair(0, 5), 1);
+        due("the second by way 0", x.pair(1, 5), 1);
     }
 }

@@ -15,6 +15,8 @@ public final class TablesTest {
         notInLeft();
         refutedStays();
         fullJudge();
+        wayZero();
+        manyCalls();
         CHECK.finish();
     }
 
@@ -204,6 +206,12 @@ public final class TablesTest {
         due("judge(0)", y.judge(0), REFUTED);
         due("VARIABLE 0 goes fastest", y.refuted(0), 2);
         due("refuted(1)", y.refuted(1), 0);
+        y.cell(2, 2, 0, 0);
+        due("judge(0)", y.judge(0), REFUTED);
+        due("VARIABLE 0 begins again at 0", y.refuted(0), 0);
+        due("refuted(1)", y.refuted(1), 1);
+        y.cell(2, 0, 1, 0);
+        due("judge(0)", y.judge(0), TRIED);
     }
 
     private static void notInLeft() {
@@ -270,5 +278,50 @@ public final class TablesTest {
         due("nothing is made", x.count(1), before);
         due("refuted(0) stays", x.refuted(0), 1);
         due("used stays", x.used(NONE, 0), 100);
+    }
+
+    /** By way 0 f(v, w) -> v ends what by way 1 goes on without end. */
+    private static void wayZero() {
+        RewriteChecks x = withSigns();
+        int v = x.variable(0);
+        int w = x.variable(1);
+        int c = x.term(0, 0, 0);
+        int gc = x.term(1, c, 0);
+        x.rule(x.term(2, v, w), v);
+        x.rule(gc, gc);
+        x.sign(0, 1);
+        int d = x.term(3, 0, 0);
+        int left = x.term(2, d, gc);
+        x.rule(left, d);
+        x.rule(d, left);
+        due("LEFT by way 1", x.normal(left, 1), RewriteChecks.OPEN);
+        x.on(3, false);
+        due("LEFT's NORMAL by way 0", x.judge(2), PROVED);
+        x.on(2, false);
+        due("RIGHT's NORMAL by way 0", x.judge(3), PROVED);
+    }
+
+    private static void manyCalls() {
+        RewriteChecks x = withSigns();
+        int v = x.variable(0);
+        int t = v;
+        for (int k = 0; k < 29; k++) {
+            t = x.term(1, t, 0);
+        }
+        x.rule(t, v);
+        x.tables(3);
+        for (int k = 0; k < 4; k++) {
+            x.cell(1, k, 0, (k + 1) % 4);
+        }
+        for (int k = 0; k < 200; k++) {
+            int has = k % 4;
+            x.has(0, has);
+            due("value of the nested", x.value(t), (has + 29) % 4);
+        }
+        due("judge(0)", x.judge(0), REFUTED);
+        for (int k = 0; k < 4; k++) {
+            x.cell(1, k, 0, k);
+        }
+        due("judge(0)", x.judge(0), TRIED);
     }
 }

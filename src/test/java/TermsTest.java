@@ -113,6 +113,10 @@ public final class TermsTest {
                 due("of(" + all[k] + ", " + what + ", 99)", x.of(all[k], what, 99), tellings[k][what]);
             }
         }
+        int v0 = x.variable(0);
+        due("of(v0, 0, 0)", x.of(v0, 0, 0), NONE);
+        due("of(v0, 1, 0)", x.of(v0, 1, 0), 0);
+        due("of(v0, 4, 0)", x.of(v0, 4, 0), 1);
         due("of(u, 4, 5)", x.of(u, 4, 5), 2);
         due("of(u, 4, 4)", x.of(u, 4, 4), 0);
         due("of(v, 4, 5)", x.of(v, 4, 5), 1);
@@ -120,7 +124,7 @@ public final class TermsTest {
         due("of(u, 4, 8)", x.of(u, 4, 8), BAD);
         due("of(u, 5, 0)", x.of(u, 5, 0), BAD);
         due("of(u, -1, 0)", x.of(u, -1, 0), BAD);
-        due("of(4, 0, 0)", x.of(4, 0, 0), BAD);
+        due("of(5, 0, 0)", x.of(5, 0, 0), BAD);
         due("of(-1, 0, 0)", x.of(-1, 0, 0), BAD);
     }
 
