@@ -14,13 +14,7 @@ final class Busy {
 
     /** The last TERM is the deepest one: a STEP by RULE 0 makes one more TERM of it. */
     static RewriteChecks of(int terms) {
-        RewriteChecks x = new RewriteChecks();
-        x.sign(0, 1);
-        x.sign(1, 1);
-        x.sign(2, 1);
-        x.sign(0, 2);
-        x.term(0, 0, 0);
-        x.term(3, 0, 0);
+        RewriteChecks x = Dues.small();
         x.variable(0);
         x.variable(1);
         x.term(2, V0, V1);

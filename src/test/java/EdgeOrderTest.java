@@ -1,8 +1,5 @@
 /** The edges of ABOVE and ENDS: promises 10 and 11. Above each test stands its sentence. */
-public final class EdgeOrderTest {
-    private static final int BAD = -2, STATE = -3;
-    private static final int LEAST = Integer.MIN_VALUE, MOST = Integer.MAX_VALUE;
-    private static final Check CHECK = new Check();
+public final class EdgeOrderTest extends Dues {
 
     public static void main(String[] args) {
         ruleBounds();
@@ -19,12 +16,8 @@ public final class EdgeOrderTest {
         CHECK.finish();
     }
 
-    private static void due(String call, long got, long want) {
-        CHECK.due(call, got, want);
-    }
-
     /** SIGNS 0 to 3 without PARTS, of WEIGHTS 1, 2, 2, 3; 4 (g, one), 5 (h, one), 6 (f, two), of 1. */
-    private static RewriteChecks small() {
+    private static RewriteChecks seven() {
         RewriteChecks x = new RewriteChecks();
         int[][] signs = {{0, 1}, {0, 2}, {0, 2}, {0, 3}, {1, 1}, {1, 1}, {2, 1}};
         for (int[] s : signs) {
@@ -38,7 +31,7 @@ public final class EdgeOrderTest {
 
     /** "Whether a RULE ENDS: 1, 0. BAD." */
     private static void ruleBounds() {
-        RewriteChecks x = small();
+        RewriteChecks x = seven();
         due("ends(0), no RULES", x.ends(0), BAD);
         x.rule(1, 0);
         x.rule(0, 1);
@@ -60,7 +53,7 @@ public final class EdgeOrderTest {
     private static void termBounds() {
         RewriteChecks x = new RewriteChecks();
         due("above(0, 0), no TERMS", x.above(0, 0), BAD);
-        RewriteChecks y = small();
+        RewriteChecks y = seven();
         for (int wrong : new int[] {LEAST, -1, 4, 999, 1000, MOST}) {
             due("above(" + wrong + ", 0)", y.above(wrong, 0), BAD);
             due("above(0, " + wrong + ")", y.above(0, wrong), BAD);
@@ -70,21 +63,13 @@ public final class EdgeOrderTest {
         due("above(3, 3): of itself", y.above(3, 3), 0);
     }
 
-    private static int nested(RewriteChecks x, int term, int many) {
-        int t = term;
-        for (int k = 0; k < many; k++) {
-            t = x.term(4, t, 0);
-        }
-        return t;
-    }
-
     /** "STATE: a SIZE is above 30" */
     private static void sizesAbove() {
-        RewriteChecks x = small();
+        RewriteChecks x = seven();
         int v = x.variable(7);
-        int size29 = nested(x, v, 28);
-        int size30 = nested(x, v, 29);
-        int size31 = nested(x, v, 30);
+        int size29 = nested(x, 4, v, 28);
+        int size30 = nested(x, 4, v, 29);
+        int size31 = nested(x, 4, v, 30);
         due("SIZES 30, 29", x.above(size30, size29), 1);
         due("SIZES 29, 30", x.above(size29, size30), 0);
         due("SIZES 30, 30", x.above(size30, size30), 0);
@@ -93,17 +78,17 @@ public final class EdgeOrderTest {
         due("SIZES 31, 31", x.above(size31, size31), STATE);
         due("SIZES 31, 1", x.above(size31, v), STATE);
         due("SIZES 1, 31", x.above(v, size31), STATE);
-        int size15 = nested(x, v, 14);
-        int size14 = nested(x, v, 13);
+        int size15 = nested(x, 4, v, 14);
+        int size14 = nested(x, 4, v, 13);
         due("SIZE 15 and 14, and 1", x.above(x.term(6, size15, size14), v), 1);
         due("twice SIZE 15, and 1", x.above(x.term(6, size15, size15), v), STATE);
-        int heavy = nested(x, 3, 29);
+        int heavy = nested(x, 4, 3, 29);
         due("SIZE 30, WEIGHT 32", x.above(heavy, 0), 1);
     }
 
     private static void badAheadOfState() {
-        RewriteChecks x = small();
-        int size31 = nested(x, 0, 30);
+        RewriteChecks x = seven();
+        int size31 = nested(x, 4, 0, 30);
         due("above(SIZE 31, -1)", x.above(size31, -1), BAD);
         due("above(size31 + 1, SIZE 31)", x.above(size31 + 1, size31), BAD);
         due("above(SIZE 31, c)", x.above(size31, 0), STATE);
@@ -111,7 +96,7 @@ public final class EdgeOrderTest {
 
     /** "no VARIABLE stands in t more often than in s" */
     private static void noMoreOften() {
-        RewriteChecks x = small();
+        RewriteChecks x = seven();
         for (int v = 0; v < 8; v++) {
             int t = x.variable(v);
             int one = x.term(4, t, 0);
@@ -127,7 +112,7 @@ public final class EdgeOrderTest {
 
     /** "THE WEIGHT of s is greater" */
     private static void weights() {
-        RewriteChecks x = small();
+        RewriteChecks x = seven();
         due("WEIGHTS 2, 1", x.above(1, 0), 1);
         due("WEIGHTS 1, 2", x.above(0, 1), 0);
         due("WEIGHTS 3, 2", x.above(3, 2), 1);
@@ -137,7 +122,7 @@ public final class EdgeOrderTest {
 
     /** "or they are the same, and: .. s's SIGN has a greater number than t's" */
     private static void sameWeightSigns() {
-        RewriteChecks x = small();
+        RewriteChecks x = seven();
         int v = x.variable(0);
         int g = x.term(4, v, 0);
         int h = x.term(5, v, 0);
@@ -151,7 +136,7 @@ public final class EdgeOrderTest {
 
     /** "t is a VARIABLE and s is none" */
     private static void variables() {
-        RewriteChecks x = small();
+        RewriteChecks x = seven();
         int v = x.variable(0);
         int w = x.variable(1);
         due("v0, v0", x.above(v, v), 0);
@@ -165,7 +150,7 @@ public final class EdgeOrderTest {
 
     /** "or they have the same, and the first PARTS that differ are ABOVE so" */
     private static void firstPartsThatDiffer() {
-        RewriteChecks x = small();
+        RewriteChecks x = seven();
         due("f(2, 1), f(1, 2)", x.above(x.term(6, 2, 1), x.term(6, 1, 2)), 1);
         due("f(1, 2), f(2, 1)", x.above(x.term(6, 1, 2), x.term(6, 2, 1)), 0);
         due("f(1, 2), f(1, 1)", x.above(x.term(6, 1, 2), x.term(6, 1, 1)), 1);
@@ -175,15 +160,15 @@ public final class EdgeOrderTest {
         due("f(0, 3), f(2, 1)", x.above(x.term(6, 0, 3), x.term(6, 2, 1)), 0);
         due("g(2), g(1)", x.above(x.term(4, 2, 0), x.term(4, 1, 0)), 1);
         due("g(1), g(2)", x.above(x.term(4, 1, 0), x.term(4, 2, 0)), 0);
-        int high = nested(x, 2, 29);
-        int low = nested(x, 1, 29);
+        int high = nested(x, 4, 2, 29);
+        int low = nested(x, 4, 1, 29);
         due("29 deep", x.above(high, low), 1);
         due("29 deep, turned", x.above(low, high), 0);
     }
 
     /** The same: they too may have no VARIABLE more often. */
     private static void partsAboveSo() {
-        RewriteChecks x = small();
+        RewriteChecks x = seven();
         int v = x.variable(0);
         int w = x.variable(1);
         due("f(3, v), f(v, 3)", x.above(x.term(6, 3, v), x.term(6, v, 3)), 0);

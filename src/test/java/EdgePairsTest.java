@@ -1,8 +1,5 @@
 /** The edges of PAIRS: promises 12 and 13. Above each test stands its sentence. */
-public final class EdgePairsTest {
-    private static final int BAD = -2, FULL = -4, OPEN = -5;
-    private static final int LEAST = Integer.MIN_VALUE, MOST = Integer.MAX_VALUE;
-    private static final Check CHECK = new Check();
+public final class EdgePairsTest extends Dues {
 
     public static void main(String[] args) {
         pairsOfNothing();
@@ -11,7 +8,12 @@ public final class EdgePairsTest {
         placesWithSign();
         fourGreater();
         withinItself();
+        withinItselfBeside();
+        withinItselfByMany();
         mostGeneral();
+        largestRules();
+        manyDeepPlaces();
+        lastSign();
         numberedFromNought();
         sevenVariables();
         sixtyAtMost();
@@ -30,25 +32,9 @@ public final class EdgePairsTest {
         CHECK.finish();
     }
 
-    private static void due(String call, long got, long want) {
-        CHECK.due(call, got, want);
-    }
-
-    private static void duePair(RewriteChecks x, int k, long... want) {
-        for (int what = 0; what < want.length; what++) {
-            due("pair(" + k + ", " + what + ")", x.pair(k, what), want[what]);
-        }
-    }
-
-    /** SIGNS 0 (c, no PARTS), 1 (g, one), 2 (f, two), 3 (d, none); TERMS 0 (c), 1 (d), 2 (v0), 3 (v1). */
-    private static RewriteChecks small() {
-        RewriteChecks x = new RewriteChecks();
-        x.sign(0, 1);
-        x.sign(1, 1);
-        x.sign(2, 1);
-        x.sign(0, 1);
-        x.term(0, 0, 0);
-        x.term(3, 0, 0);
+    /** As small(), and the TERMS 2 (v0) and 3 (v1). */
+    private static RewriteChecks withVariables() {
+        RewriteChecks x = small();
         x.variable(0);
         x.variable(1);
         return x;
@@ -56,7 +42,7 @@ public final class EdgePairsTest {
 
     /** What is told of no RULES, of one alone, and of one that meets none. */
     private static void pairsOfNothing() {
-        RewriteChecks x = small();
+        RewriteChecks x = withVariables();
         due("no RULES", x.pairs(), 0);
         due("count(3)", x.count(3), 0);
         due("pair(0, 0)", x.pair(0, 0), BAD);
@@ -69,19 +55,19 @@ public final class EdgePairsTest {
 
     /** "(both ON, by numbers)" */
     private static void bothOn() {
-        RewriteChecks x = small();
+        RewriteChecks x = withVariables();
         for (int r = 0; r < 3; r++) {
             x.rule(0, 1);
         }
         long[][] all = {{0, 1, 1}, {0, 2, 1}, {1, 0, 1}, {1, 2, 1}, {2, 0, 1}, {2, 1, 1}};
         due("three ON", x.pairs(), 6);
         for (int k = 0; k < 6; k++) {
-            duePair(x, k, all[k]);
+            duePair("PAIRS", x, k, all[k]);
         }
         x.on(1, false);
         due("two ON", x.pairs(), 2);
-        duePair(x, 0, 0, 2, 1);
-        duePair(x, 1, 2, 0, 1);
+        duePair("PAIRS", x, 0, 0, 2, 1);
+        duePair("PAIRS", x, 1, 2, 0, 1);
         x.on(2, false);
         due("one ON", x.pairs(), 0);
         x.on(0, false);
@@ -89,54 +75,54 @@ public final class EdgePairsTest {
         x.on(1, true);
         x.on(2, true);
         due("the last two ON", x.pairs(), 2);
-        duePair(x, 1, 2, 1, 1);
+        duePair("PAIRS", x, 1, 2, 1, 1);
     }
 
     /** "(not 1, if i is j)" */
     private static void notOneIfTheSame() {
-        RewriteChecks x = small();
+        RewriteChecks x = withVariables();
         int gv = x.term(1, 2, 0);
         int ggv = x.term(1, gv, 0);
         int gggv = x.term(1, ggv, 0);
         x.rule(gggv, 2);
         due("with itself at 3 and 9", x.pairs(), 2);
-        duePair(x, 0, 0, 0, 3, gv, gv, 1);
-        duePair(x, 1, 0, 0, 9, ggv, ggv, 1);
+        duePair("PAIRS", x, 0, 0, 0, 3, gv, gv, 1);
+        duePair("PAIRS", x, 1, 0, 0, 9, ggv, ggv, 1);
         x.rule(gggv, 2);
         due("with another one at 1 too", x.pairs(), 2 + 3 + 3 + 2);
-        duePair(x, 2, 0, 1, 1);
-        duePair(x, 5, 1, 0, 1);
-        duePair(x, 8, 1, 1, 3);
+        duePair("PAIRS", x, 2, 0, 1, 1);
+        duePair("PAIRS", x, 5, 1, 0, 1);
+        duePair("PAIRS", x, 8, 1, 1, 3);
     }
 
     /** "each PLACE of LEFT i with a SIGN, as by way 0" */
     private static void placesWithSign() {
-        RewriteChecks x = small();
+        RewriteChecks x = withVariables();
         int fvc = x.term(2, 2, 0);
         int fcw = x.term(2, 0, 3);
         x.rule(x.term(2, fvc, fcw), 2);
         x.rule(0, 1);
         due("not at VARIABLES", x.pairs(), 2);
-        duePair(x, 0, 0, 1, 10);
-        duePair(x, 1, 0, 1, 12);
+        duePair("PAIRS", x, 0, 0, 1, 10);
+        duePair("PAIRS", x, 1, 0, 1, 12);
         x.on(1, false);
         x.rule(x.term(2, 2, 3), 2);
         due("ahead of their PARTS", x.pairs(), 3 + 1);
-        duePair(x, 0, 0, 2, 1);
-        duePair(x, 1, 0, 2, 3);
-        duePair(x, 2, 0, 2, 4);
-        duePair(x, 3, 2, 0, 1);
+        duePair("PAIRS", x, 0, 0, 2, 1);
+        duePair("PAIRS", x, 1, 0, 2, 3);
+        duePair("PAIRS", x, 2, 0, 2, 4);
+        duePair("PAIRS", x, 3, 2, 0, 1);
     }
 
     /** "the VARIABLES of j are taken 4 greater" */
     private static void fourGreater() {
-        RewriteChecks x = small();
+        RewriteChecks x = withVariables();
         x.rule(x.term(2, 2, 0), 2);
         x.rule(x.term(2, 1, 2), 2);
         due("f(v0, c) and f(d, v0)", x.pairs(), 2);
-        duePair(x, 0, 0, 1, 1, 0, 1, 0);
-        duePair(x, 1, 1, 0, 1, 1, 0, 0);
-        RewriteChecks y = small();
+        duePair("PAIRS", x, 0, 0, 1, 1, 0, 1, 0);
+        duePair("PAIRS", x, 1, 1, 0, 1, 1, 0, 0);
+        RewriteChecks y = withVariables();
         y.rule(y.term(2, 2, y.term(1, 2, 0)), 2);
         y.rule(y.term(2, y.term(1, 2, 0), 2), 2);
         due("f(v, g(v)) and f(g(v), v): round", y.pairs(), 0);
@@ -144,7 +130,7 @@ public final class EdgePairsTest {
 
     /** "can become the same by TERMS in place of VARIABLES": no TERM stands within itself */
     private static void withinItself() {
-        RewriteChecks x = small();
+        RewriteChecks x = withVariables();
         int gv = x.term(1, 2, 0);
         x.rule(x.term(2, 2, gv), 2);
         x.rule(x.term(2, 3, 3), 3);
@@ -155,9 +141,134 @@ public final class EdgePairsTest {
         due("v and w, with both others", x.pairs(), 4);
     }
 
+    /** The same, with a VARIABLE beside that is not in the round. */
+    private static void withinItselfBeside() {
+        for (int code = 0; code < 64; code++) {
+            int a = code / 16;
+            int b = code / 4 % 4;
+            int c = code % 4;
+            if (b != c) {
+                RewriteChecks x = withVariables();
+                int v = x.variable(a);
+                int beside = x.variable(b);
+                int w = x.variable(c);
+                x.rule(x.term(2, v, x.term(1, v, 0)), 0);
+                x.rule(x.term(2, x.term(2, beside, w), w), 0);
+                due("f(v, g(v)) and f(f(u, w), w), " + code, hasPairAtOne(x) ? 1 : 0, 0);
+                x.on(1, false);
+                x.rule(x.term(2, x.term(2, beside, beside), w), 0);
+                // Two of both at 1, and one of the latter with itself at 3.
+                due("f(v, g(v)) and f(f(u, u), w), " + code, x.pairs(), 3);
+            }
+        }
+    }
+
+    /** The TERM f(f(f(a, b), f(c, d)), f(f(e, f), f(g, h))). */
+    private static int ofEight(RewriteChecks x, int... t) {
+        int[] now = t;
+        while (now.length > 1) {
+            int[] next = new int[now.length / 2];
+            for (int k = 0; k < next.length; k++) {
+                next[k] = x.term(2, now[2 * k], now[2 * k + 1]);
+            }
+            now = next;
+        }
+        return now[0];
+    }
+
+    private static boolean hasPairAtOne(RewriteChecks x) {
+        int many = x.pairs();
+        for (int k = 0; k < many; k++) {
+            if (x.pair(k, 0) == 0 && x.pair(k, 1) == 1 && x.pair(k, 2) == 1) {
+                return true;
+            }
+        }
+        return false;
+    }
+
+    /** The same, by four VARIABLES of each RULE in a round, in whatever order. */
+    private static void withinItselfByMany() {
+        for (int code = 0; code < 256; code++) {
+            int[] p = {code / 64, code / 16 % 4, code / 4 % 4, code % 4};
+            if ((1 << p[0] | 1 << p[1] | 1 << p[2] | 1 << p[3]) != 15) {
+                continue;
+            }
+            for (int round = 0; round < 2; round++) {
+                RewriteChecks x = withVariables();
+                x.variable(2);
+                x.variable(3);
+                int[] v = new int[4];
+                int[] g = new int[4];
+                for (int k = 0; k < 4; k++) {
+                    v[k] = x.variable(p[k]);
+                    g[k] = x.term(1, v[k], 0);
+                }
+                int last = round == 0 ? 0 : g[3];
+                int w0 = x.variable(p[2]);
+                int w1 = x.variable(p[0]);
+                int w2 = x.variable(p[3]);
+                int w3 = x.variable(p[1]);
+                x.rule(ofEight(x, v[0], g[0], v[1], g[1], v[2], g[2], v[3], last), 0);
+                x.rule(ofEight(x, w3, w0, w0, w1, w1, w2, w2, w3), 0);
+                due("round by eight, " + code, hasPairAtOne(x) ? 1 : 0, round == 0 ? 1 : 0);
+            }
+        }
+    }
+
+    /** "neither of SIZE above 30": all four of SIZE 30, at the deepest PLACE and at 1 */
+    private static void largestRules() {
+        RewriteChecks x = withVariables();
+        x.sign(1, 1);
+        int nestedV = nested(x, 1, 2, 29);
+        int nestedC = nested(x, 1, 0, 29);
+        int rightI = nested(x, 4, 1, 29);
+        int rightJ = nested(x, 4, 0, 29);
+        x.rule(nestedV, rightI);
+        x.rule(nestedC, rightJ);
+        x.on(0, false);
+        x.on(1, false);
+        x.rule(nestedV, rightI);
+        x.rule(nestedC, rightJ);
+        // 28 of RULE 2 with itself, 29 of RULE 2 with 3, 1 of 3 with 2, at PLACE 1.
+        due("pairs()", x.pairs(), 28 + 29 + 1);
+        long place = 1;
+        for (int depth = 0; depth < 29; depth++) {
+            duePair("PAIRS", x, 28 + depth, 2, 3, place, nested(x, 1, rightJ, depth), rightI);
+            place *= 3;
+        }
+        duePair("PAIRS", x, 57, 3, 2, 1, rightI, rightJ);
+    }
+
+    /** The same, of a RULE that meets itself at each of its PLACES. */
+    private static void manyDeepPlaces() {
+        RewriteChecks x = withVariables();
+        x.rule(nested(x, 1, 2, 29), 0);
+        due("pairs()", x.pairs(), 28);
+        long place = 3;
+        for (int depth = 1; depth <= 28; depth++) {
+            duePair("PAIRS", x, depth - 1, 0, 0, place, nested(x, 1, 0, depth), 0);
+            place *= 3;
+        }
+    }
+
+    /** "SIGNS 0 to 9": the last one in PAIRS */
+    private static void lastSign() {
+        RewriteChecks x = withVariables();
+        for (int k = 4; k < 10; k++) {
+            x.sign(2, 1);
+        }
+        int inner = x.term(9, 2, 3);
+        x.rule(x.term(9, inner, 2), x.term(9, 2, inner));
+        due("pairs()", x.pairs(), 1);
+        due("the PLACE", x.pair(0, 2), 3);
+        // 9(9(0, 1), 0) with 9(9(4, 5), 4) at 3: 0 is 9(4, 5), and 1 is 4.
+        due("LEFT i with RIGHT j", x.pair(0, 3), x.term(9, x.term(9, 2, inner), inner));
+        due("RIGHT i", x.pair(0, 4), x.term(9, inner, x.term(9, inner, 2)));
+    }
+
     /** "by those that are the most general" */
     private static void mostGeneral() {
-        RewriteChecks x = small();
+        RewriteChecks x = withVariables();
         int v2 = x.variable(2);
         int left = x.term(2, 2, x.term(2, 3, v2));
         x.rule(left, left);
@@ -165,12 +276,12 @@ public final class EdgePairsTest {
         due("pairs()", x.pairs(), 4);
         int first = x.term(2, x.term(2, 3, v2), 2);
         // f(0, f(1, 2)) and f(4, 5) at 1: 4 is 0, and 5 is f(1, 2)
-        duePair(x, 1, 0, 1, 1, first, left);
+        duePair("PAIRS", x, 1, 0, 1, 1, first, left);
     }
 
     /** "they are numbered anew from 0 on", as they are met along LEFT i */
     private static void numberedFromNought() {
-        RewriteChecks x = small();
+        RewriteChecks x = withVariables();
         int v2 = x.variable(2);
         int v3 = x.variable(3);
         int gv3 = x.term(1, v3, 0);
@@ -178,12 +289,12 @@ public final class EdgePairsTest {
         x.rule(x.term(1, v3, 0), v3);
         due("pairs()", x.pairs(), 1);
         // f(g(3), 2) is f(g(0), 1) anew
-        duePair(x, 0, 0, 1, 3, x.term(2, 2, 3), x.term(2, 3, 2));
+        duePair("PAIRS", x, 0, 0, 1, 3, x.term(2, 2, 3), x.term(2, 3, 2));
     }
 
     /** "(more than 8 can't be" */
     private static void sevenVariables() {
-        RewriteChecks x = small();
+        RewriteChecks x = withVariables();
         int v2 = x.variable(2);
         int v3 = x.variable(3);
         int left = x.term(2, x.term(2, 2, 0), x.term(2, 3, x.term(2, v2, v3)));
@@ -214,11 +325,7 @@ public final class EdgePairsTest {
      * SIGNS 3, 4 and 5 that meets itself: 56, 2, 1, 1 and 1 PAIRS. The last one makes a TERM.
      */
     private static RewriteChecks many(int terms) {
-        RewriteChecks x = new RewriteChecks();
-        x.sign(0, 1);
-        for (int k = 0; k < 6; k++) {
-            x.sign(1, 1);
-        }
+        RewriteChecks x = withSigns(0, 1, 1, 1, 1, 1, 1);
         int c = x.term(0, 0, 0);
         int v = x.variable(0);
         int[] one = new int[7];
@@ -297,11 +404,7 @@ public final class EdgePairsTest {
      * The RULE 6, g(g(v0)) -> f(v0, d), meets itself: that PAIR makes two TERMS.
      */
     private static RewriteChecks tight(int terms) {
-        RewriteChecks x = new RewriteChecks();
-        int[] arities = {0, 1, 2, 0, 0, 1};
-        for (int arity : arities) {
-            x.sign(arity, 1);
-        }
+        RewriteChecks x = withSigns(0, 1, 2, 0, 0, 1);
         int c = x.term(0, 0, 0);
         int d = x.term(3, 0, 0);
         int e = x.term(4, 0, 0);
@@ -339,13 +442,13 @@ public final class EdgePairsTest {
         RewriteChecks x = tight(998);
         due("count(1)", x.count(1), 998);
         due("count(3)", x.count(3), 2);
-        duePair(x, 0, 2, 3, 1, C, GD, 0);
-        duePair(x, 1, 3, 2, 1, GD, C, 0);
+        duePair("PAIRS", x, 0, 2, 3, 1, C, GD, 0);
+        duePair("PAIRS", x, 1, 3, 2, 1, GD, C, 0);
         RewriteChecks y = tightWithout(998);
         due("the last two TERMS", y.pairs(), 3);
-        duePair(y, 0, D_TO_E, D_TO_D, 1, D, E);
-        duePair(y, 1, D_TO_D, D_TO_E, 1, E, D);
-        duePair(y, 2, TWO_TERMS, TWO_TERMS, 3, 998, 999);
+        duePair("PAIRS", y, 0, D_TO_E, D_TO_D, 1, D, E);
+        duePair("PAIRS", y, 1, D_TO_D, D_TO_E, 1, E, D);
+        duePair("PAIRS", y, 2, TWO_TERMS, TWO_TERMS, 3, 998, 999);
         due("count(1)", y.count(1), 1000);
         due("once more", y.pairs(), 3);
     }
@@ -360,10 +463,10 @@ public final class EdgePairsTest {
         due("pairs()", x.pairs(), FULL);
         due("pairs()", x.pairs(), FULL);
         due("count(3)", x.count(3), 2);
-        duePair(x, 0, 2, 3, 1, C, GD);
+        duePair("PAIRS", x, 0, 2, 3, 1, C, GD);
         x.on(TWO_TERMS, false);
         due("without the large one", x.pairs(), 2);
-        duePair(x, 0, D_TO_E, D_TO_D, 1, D, E);
+        duePair("PAIRS", x, 0, D_TO_E, D_TO_D, 1, D, E);
     }
 
     /** "Of PAIR k as told last"; "BAD" */
@@ -375,7 +478,7 @@ public final class EdgePairsTest {
                 due("pair(" + wrong + ", " + what + ")", x.pair(wrong, what), BAD);
             }
         }
-        RewriteChecks y = small();
+        RewriteChecks y = withVariables();
         y.rule(0, 1);
         y.rule(0, 0);
         due("pair(0, 0), not told yet", y.pair(0, 0), BAD);
@@ -386,7 +489,7 @@ public final class EdgePairsTest {
     /** "what = 0, 1 the RULES i, j; 2 the PLACE; 3, 4 the TERMS; 5 JOINED" */
     private static void pairWhats() {
         RewriteChecks x = tight(120);
-        duePair(x, 0, 2, 3, 1, C, GD, 0);
+        duePair("PAIRS", x, 0, 2, 3, 1, C, GD, 0);
         for (int wrong : new int[] {LEAST, -2, -1, 6, 7, MOST}) {
             due("pair(0, " + wrong + ")", x.pair(0, wrong), BAD);
             due("pair(2, " + wrong + ")", x.pair(2, wrong), BAD);
@@ -404,29 +507,29 @@ public final class EdgePairsTest {
         x.rule(D, D);
         x.on(2, false);
         due("as told last", x.count(3), 2);
-        duePair(x, 1, 3, 2, 1);
+        duePair("PAIRS", x, 1, 3, 2, 1);
         due("fewer", x.pairs(), 0);
         due("count(3)", x.count(3), 0);
         due("pair(0, 0)", x.pair(0, 0), BAD);
         x.on(2, true);
         x.on(D_TO_E, true);
         due("more", x.pairs(), 4);
-        duePair(x, 0, 2, 3, 1);
-        duePair(x, 1, 3, 2, 1);
-        duePair(x, 2, D_TO_E, 8, 1);
+        duePair("PAIRS", x, 0, 2, 3, 1);
+        duePair("PAIRS", x, 1, 3, 2, 1);
+        duePair("PAIRS", x, 2, D_TO_E, 8, 1);
         due("the same again", x.pairs(), 4);
     }
 
     /** "A PAIR is JOINED, if both have the same NORMAL (way 0)": 1, 0 */
     private static void joined() {
-        RewriteChecks x = small();
+        RewriteChecks x = withVariables();
         int gc = x.term(1, 0, 0);
         x.rule(gc, 0);
         x.rule(gc, 0);
         x.rule(gc, 1);
         due("pairs()", x.pairs(), 6);
-        duePair(x, 0, 0, 1, 1, 0, 0, 1);
-        duePair(x, 1, 0, 2, 1, 1, 0, 0);
+        duePair("PAIRS", x, 0, 0, 1, 1, 0, 0, 1);
+        duePair("PAIRS", x, 1, 0, 2, 1, 1, 0, 0);
         x.rule(1, 0);
         due("by one STEP of the first one", x.pair(1, 5), 1);
         due("by one STEP of the second one", x.pair(4, 5), 1);
@@ -434,7 +537,7 @@ public final class EdgePairsTest {
 
     /** The same, by as many STEPS as there may be. */
     private static void joinedBehindHundred() {
-        RewriteChecks x = small();
+        RewriteChecks x = withVariables();
         int t = 1;
         for (int k = 0; k < 25; k++) {
             t = x.term(1, t, 0);
@@ -443,7 +546,7 @@ public final class EdgePairsTest {
         x.rule(0, t);
         x.rule(0, 1);
         x.pairs();
-        duePair(x, 0, 0, 1, 1, 1, t, 0);
+        duePair("PAIRS", x, 0, 0, 1, 1, 1, t, 0);
         // Each g goes by 4 STEPS: g to four SIGNS in turn, then away.
         x.sign(1, 1);
         x.sign(1, 1);
@@ -463,7 +566,7 @@ public final class EdgePairsTest {
 
     /** "by RULES that are ON now" */
     private static void joinedByRulesNow() {
-        RewriteChecks x = small();
+        RewriteChecks x = withVariables();
         int gc = x.term(1, 0, 0);
         x.rule(gc, 0);
         x.rule(gc, 1);

@@ -2,10 +2,7 @@
  * The edges that the document names of PLACES, RULES, STEPS and NORMALS, and in promises 5 to 9.
  * Above each test stands the sentence that it is of.
  */
-public final class EdgeStepsTest {
-    private static final int NONE = -1, BAD = -2, STATE = -3, FULL = -4, OPEN = -5;
-    private static final int LEAST = Integer.MIN_VALUE, MOST = Integer.MAX_VALUE;
-    private static final Check CHECK = new Check();
+public final class EdgeStepsTest extends Dues {
 
     public static void main(String[] args) {
         start();
@@ -28,8 +25,11 @@ public final class EdgeStepsTest {
         firstPartFirst();
         placesToTheEnd();
         placesBeyondTheEnd();
+        lastSign();
+        largestRight();
         stepToTheLastTerm();
         refusedSteps();
+        refusedWithinRight();
         normalBounds();
         normalOfNone();
         hundredSteps();
@@ -42,30 +42,6 @@ public final class EdgeStepsTest {
         usedOfTheLatest();
         usedPastRefused();
         CHECK.finish();
-    }
-
-    private static void due(String call, long got, long want) {
-        CHECK.due(call, got, want);
-    }
-
-    /** SIGNS 0 (c, no PARTS), 1 (g, one), 2 (f, two), 3 (d, none); TERMS 0 (c), 1 (d). */
-    private static RewriteChecks small() {
-        RewriteChecks x = new RewriteChecks();
-        x.sign(0, 1);
-        x.sign(1, 1);
-        x.sign(2, 1);
-        x.sign(0, 1);
-        x.term(0, 0, 0);
-        x.term(3, 0, 0);
-        return x;
-    }
-
-    private static int nested(RewriteChecks x, int term, int many) {
-        int t = term;
-        for (int k = 0; k < many; k++) {
-            t = x.term(1, t, 0);
-        }
-        return t;
     }
 
     /** What Busy must be for the tests of refused calls. */
@@ -150,12 +126,12 @@ public final class EdgeStepsTest {
     private static void sizeOfLeft() {
         RewriteChecks x = small();
         int v = x.variable(0);
-        int size29 = nested(x, v, 28);
+        int size29 = nested(x, 1, v, 28);
         int size30 = x.term(1, size29, 0);
         due("LEFT of SIZE 30", x.rule(size30, v), 0);
         due("LEFT of SIZE 31", x.rule(x.term(1, size30, 0), v), STATE);
-        int size15 = nested(x, v, 14);
-        int size14 = nested(x, v, 13);
+        int size15 = nested(x, 1, v, 14);
+        int size14 = nested(x, 1, v, 13);
         due("LEFT of SIZE 15 and 14, and 1", x.rule(x.term(2, size15, size14), v), 1);
         due("LEFT of twice SIZE 15, and 1", x.rule(x.term(2, size15, size15), v), STATE);
         due("count(2)", x.count(2), 2);
@@ -172,11 +148,11 @@ public final class EdgeStepsTest {
         RewriteChecks x = small();
         int v = x.variable(0);
         int gv = x.term(1, v, 0);
-        int size30 = nested(x, v, 29);
+        int size30 = nested(x, 1, v, 29);
         due("RIGHT of SIZE 30", x.rule(gv, size30), 0);
         due("RIGHT of SIZE 31", x.rule(gv, x.term(1, size30, 0)), STATE);
-        int size15 = nested(x, 0, 14);
-        int size14 = nested(x, 0, 13);
+        int size15 = nested(x, 1, 0, 14);
+        int size14 = nested(x, 1, 0, 13);
         due("RIGHT of SIZE 14 and 15, and 1", x.rule(gv, x.term(2, size14, size15)), 1);
         due("RIGHT of twice SIZE 15, and 1", x.rule(gv, x.term(2, size15, size15)), STATE);
         due("both of SIZE 30", x.rule(size30, size30), 2);
@@ -216,7 +192,7 @@ public final class EdgeStepsTest {
         due("BAD ahead of FULL", x.rule(0, 3), BAD);
         due("STATE ahead of FULL: LEFT", x.rule(v, 0), STATE);
         due("STATE ahead of FULL: VARIABLES", x.rule(0, v), STATE);
-        due("STATE ahead of FULL: SIZE", x.rule(0, nested(x, 0, 30)), STATE);
+        due("STATE ahead of FULL: SIZE", x.rule(0, nested(x, 1, 0, 30)), STATE);
         due("FULL", x.rule(0, 1), FULL);
     }
 
@@ -431,6 +407,50 @@ public final class EdgeStepsTest {
         }
     }
 
+    /** "SIGNS 0 to 9": the last one in RULES and STEPS */
+    private static void lastSign() {
+        RewriteChecks x = small();
+        for (int k = 4; k < 10; k++) {
+            x.sign(2, 1);
+        }
+        int v = x.variable(0);
+        int w = x.variable(1);
+        int left = x.term(9, v, w);
+        int swapped = x.term(9, w, v);
+        due("rule of SIGN 9", x.rule(left, swapped), 0);
+        due("rule of SIGN 9", x.rule(x.term(9, v, v), v), 1);
+        due("SIGN 9 has no VARIABLE of its own", x.rule(x.term(9, 0, 1), 0), 2);
+        due("step", x.step(x.term(9, 0, 1), 0), x.term(9, 1, 0));
+        x.on(0, false);
+        due("step", x.step(x.term(9, 1, 1), 1), 1);
+        due("step", x.step(x.term(9, 0, 1), 1), 0);
+    }
+
+    /** "neither of SIZE above 30": STEPS by the largest RULES */
+    private static void largestRight() {
+        RewriteChecks x = small();
+        int v = x.variable(0);
+        int left = x.term(2, v, v);
+        int right = nested(x, 1, v, 29);
+        int byParts = v;
+        for (int k = 0; k < 14; k++) {
+            byParts = x.term(2, 0, byParts);
+        }
+        x.rule(left, right);
+        x.rule(x.term(2, v, 0), x.term(1, byParts, 0));
+        due("RIGHT of SIZE 30", x.of(right, 2, 0), 30);
+        due("RIGHT of SIZE 30", x.of(x.term(1, byParts, 0), 2, 0), 30);
+        due("nested 29 deep", x.step(x.term(2, 1, 1), 0), nested(x, 1, 1, 29));
+        int t = x.step(x.term(2, 1, 0), 0);
+        due("by RULE 1", x.used(0, 0), 1);
+        int inner = x.part(t, 0);
+        for (int k = 0; k < 14; k++) {
+            due("the first PART", x.part(inner, 0), 0);
+            inner = x.part(inner, 1);
+        }
+        due("the innermost", inner, 1);
+    }
+
     /** "1000 at most"; "step: FULL" */
     private static void stepToTheLastTerm() {
         RewriteChecks x = Busy.of(999, 0, true);
@@ -457,6 +477,45 @@ public final class EdgeStepsTest {
         one.due("step(-1, 0)", x -> x.step(-1, 0), BAD);
         one.due("step(0, 2)", x -> x.step(0, 2), BAD);
         one.due("step(0, -1)", x -> x.step(0, -1), BAD);
+    }
+
+    // Of growing(): g(k(d)), whose STEP makes five TERMS.
+    private static final int GKD = 9;
+
+    /** k(v) -> f(g(g(v)), f(v, v)) is RULE 2; there are no TERMS g(d), f(d, d) yet. */
+    private static RewriteChecks growing(int terms) {
+        RewriteChecks x = small();
+        x.sign(1, 1);
+        x.sign(1, 1);
+        int v = x.variable(0);
+        int ggv = nested(x, 1, v, 2);
+        int right = x.term(2, ggv, x.term(2, v, v));
+        int kv = x.term(4, v, 0);
+        int kd = x.term(4, 1, 0);
+        due("g(k(d))", x.term(1, kd, 0), GKD);
+        Fill.to(x, 0, 5, terms);
+        x.rule(kv, right);
+        return x;
+    }
+
+    /** "FULL: then nothing changes, also no TERM is made": at each of the five TERMS of a STEP */
+    private static void refusedWithinRight() {
+        for (int way = 0; way < 2; way++) {
+            int by = way;
+            RewriteChecks x = growing(995);
+            due("five TERMS", x.step(GKD, by), 999);
+            due("g(d)", x.part(995, 0), 1);
+            due("g(g(d))", x.part(996, 0), 995);
+            due("f(d, d)", x.part(997, 0), 1);
+            due("f(g(g(d)), f(d, d))", x.part(998, 1), 997);
+            due("the whole", x.part(999, 0), 998);
+            for (int terms = 996; terms <= 1000; terms++) {
+                int there = terms;
+                Refusal refused = new Refusal(CHECK, () -> growing(there));
+                refused.due("step, " + there, y -> y.step(GKD, by), FULL);
+                refused.due("normal, " + there, y -> y.normal(GKD, by), FULL);
+            }
+        }
     }
 
     /** "normal: BAD" */
@@ -499,7 +558,7 @@ public final class EdgeStepsTest {
                 RewriteChecks x = small();
                 int v = x.variable(0);
                 x.rule(x.term(1, v, 0), v);
-                int t = nested(x, 0, many);
+                int t = nested(x, 1, 0, many);
                 due(many + " STEPS", x.normal(t, way), many <= 100 ? 0 : OPEN);
                 int used = Math.min(many, 100);
                 due("used(NONE, 0)", x.used(NONE, 0), used);

@@ -1,9 +1,5 @@
 /** The edges of TABLES and of TO JUDGE: promises 14 to 19. Above each test stands its sentence. */
-public final class EdgeTablesTest {
-    private static final int NONE = -1, BAD = -2, STATE = -3, FULL = -4, OPEN = -5;
-    private static final int LEAST = Integer.MIN_VALUE, MOST = Integer.MAX_VALUE;
-    private static final int REFUTED = 0, PROVED = 1, TRIED = 2, UNDECIDED = 3;
-    private static final Check CHECK = new Check();
+public final class EdgeTablesTest extends Dues {
 
     public static void main(String[] args) {
         howManyValues();
@@ -22,6 +18,7 @@ public final class EdgeTablesTest {
         openCountsAsN();
         valuesOfAll();
         laterSigns();
+        firstAndLastSign();
         judgeBounds();
         provedByOthers();
         provedBehindHundred();
@@ -38,22 +35,6 @@ public final class EdgeTablesTest {
         refutedBounds();
         refutedOfTheLatest();
         CHECK.finish();
-    }
-
-    private static void due(String call, long got, long want) {
-        CHECK.due(call, got, want);
-    }
-
-    /** SIGNS 0 (c, no PARTS), 1 (g, one), 2 (f, two), 3 (d, none); TERMS 0 (c), 1 (d). */
-    private static RewriteChecks small() {
-        RewriteChecks x = new RewriteChecks();
-        x.sign(0, 1);
-        x.sign(1, 1);
-        x.sign(2, 1);
-        x.sign(0, 1);
-        x.term(0, 0, 0);
-        x.term(3, 0, 0);
-        return x;
     }
 
     private static RewriteChecks withTables(int n) {
@@ -321,6 +302,32 @@ public final class EdgeTablesTest {
         due("its VALUE", x.value(e), 2);
         x.tables(1);
         due("its VALUE in new TABLES", x.value(e), 0);
+    }
+
+    /** "SIGNS 0 to 9": the first and the last one, of two PARTS */
+    private static void firstAndLastSign() {
+        for (int sign = 0; sign <= 9; sign += 9) {
+            RewriteChecks x = withSigns(2, 2, 2, 2, 2, 2, 2, 2, 2, 2);
+            int f = sign;
+            int v = x.variable(0);
+            int w = x.variable(1);
+            int fvw = x.term(f, v, w);
+            int fwv = x.term(f, w, v);
+            x.tables(3);
+            for (int at = 0; at < 16; at++) {
+                due("at first", x.cell(f, at / 4, at % 4, at / 4 * (at % 4) % 4), 0);
+            }
+            x.rule(fvw, fwv);
+            due("as f(w, v)", x.judge(0), TRIED);
+            due("what it was", x.cell(f, 3, 2, 1), 2);
+            due("another one", x.judge(0), REFUTED);
+            due("refuted(0)", x.refuted(0), 3);
+            due("refuted(1)", x.refuted(1), 2);
+            x.has(0, 3);
+            x.has(1, 2);
+            due("value(f(v, w))", x.value(fvw), 1);
+            due("value(f(w, v))", x.value(fwv), 2);
+        }
     }
 
     /** "TO JUDGE a RULE: 0 to 3. BAD" */

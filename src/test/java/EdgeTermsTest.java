@@ -2,11 +2,8 @@
  * The edges that the document names in "Terms" and in promises 1 to 4 and 20 to 23. Above each test
  * stands the sentence that it is of.
  */
-public final class EdgeTermsTest {
-    private static final int NONE = -1, BAD = -2, STATE = -3, FULL = -4, OPEN = -5;
-    private static final int LEAST = Integer.MIN_VALUE, MOST = Integer.MAX_VALUE;
+public final class EdgeTermsTest extends Dues {
     private static final long CAP = 1_000_000_000_000_000L;
-    private static final Check CHECK = new Check();
 
     public static void main(String[] args) {
         nothingAtFirst();
@@ -41,22 +38,15 @@ public final class EdgeTermsTest {
         CHECK.finish();
     }
 
-    private static void due(String call, long got, long want) {
-        CHECK.due(call, got, want);
-    }
-
-    /** SIGNS 0 (c, no PARTS), 1 (g, one), 2 (f, two), all of WEIGHT 1; the TERM 0 is c. */
-    private static RewriteChecks small() {
-        RewriteChecks x = new RewriteChecks();
-        x.sign(0, 1);
-        x.sign(1, 1);
-        x.sign(2, 1);
+    /** SIGNS 0 (c, no PARTS), 1 (g, one), 2 (f, two); the TERM 0 is c. */
+    private static RewriteChecks three() {
+        RewriteChecks x = withSigns(0, 1, 2);
         x.term(0, 0, 0);
         return x;
     }
 
     private static RewriteChecks filled(int many) {
-        RewriteChecks x = small();
+        RewriteChecks x = three();
         Fill.to(x, 0, 1, many);
         due("TERMS at the start", x.count(1), many);
         return x;
@@ -125,11 +115,11 @@ public final class EdgeTermsTest {
     }
 
     private static void refusedSigns() {
-        Refusal few = new Refusal(CHECK, EdgeTermsTest::small);
+        Refusal few = new Refusal(CHECK, EdgeTermsTest::three);
         few.due("sign(3, 1)", x -> x.sign(3, 1), BAD);
         few.due("sign(0, 10)", x -> x.sign(0, 10), BAD);
         Refusal full = new Refusal(CHECK, () -> {
-            RewriteChecks x = small();
+            RewriteChecks x = three();
             for (int k = 3; k < 10; k++) {
                 x.sign(k % 3, k % 9 + 1);
                 x.term(k, 0, 0);
@@ -154,7 +144,7 @@ public final class EdgeTermsTest {
     }
 
     private static void refusedVariables() {
-        Refusal few = new Refusal(CHECK, EdgeTermsTest::small);
+        Refusal few = new Refusal(CHECK, EdgeTermsTest::three);
         few.due("variable(-1)", x -> x.variable(-1), BAD);
         few.due("variable(8)", x -> x.variable(8), BAD);
         Refusal full = new Refusal(CHECK, () -> filled(1000));
@@ -181,7 +171,7 @@ public final class EdgeTermsTest {
 
     /** "a SIGN with as many TERMS as its ARITY (its PARTS)" */
     private static void asManyAsArity() {
-        RewriteChecks x = small();
+        RewriteChecks x = three();
         x.variable(0);
         for (int wrong : new int[] {LEAST, -1, 2, 3, MOST}) {
             due("term(1, " + wrong + ", 0)", x.term(1, wrong, 0), BAD);
@@ -200,7 +190,7 @@ public final class EdgeTermsTest {
     /** "(what is beyond its ARITY is not looked at)" */
     private static void beyondArity() {
         for (int odd : new int[] {LEAST, -1, 0, 1, 2, 1000, MOST}) {
-            RewriteChecks x = small();
+            RewriteChecks x = three();
             due("term(0, " + odd + ", " + odd + ")", x.term(0, odd, odd), 0);
             due("term(1, 0, " + odd + ")", x.term(1, 0, odd), 1);
             due("term(1, 0, 0)", x.term(1, 0, 0), 1);
@@ -210,7 +200,7 @@ public final class EdgeTermsTest {
 
     /** "No two TERMS are the same: what is there already is not made again" */
     private static void noTwoTheSame() {
-        RewriteChecks x = small();
+        RewriteChecks x = three();
         for (int v = 0; v < 8; v++) {
             x.variable(v);
         }
@@ -236,7 +226,7 @@ public final class EdgeTermsTest {
 
     /** "what comes of something else is made behind its PARTS, the first ahead of the second one" */
     private static void behindParts() {
-        RewriteChecks x = small();
+        RewriteChecks x = three();
         int v = x.variable(0);
         int w = x.variable(1);
         int gv = x.term(1, v, 0);
@@ -279,7 +269,7 @@ public final class EdgeTermsTest {
     }
 
     private static void refusedTerms() {
-        Refusal few = new Refusal(CHECK, EdgeTermsTest::small);
+        Refusal few = new Refusal(CHECK, EdgeTermsTest::three);
         few.due("term(3, 0, 0)", x -> x.term(3, 0, 0), BAD);
         few.due("term(1, 1, 0)", x -> x.term(1, 1, 0), BAD);
         few.due("term(2, 0, 1)", x -> x.term(2, 0, 1), BAD);
@@ -290,7 +280,7 @@ public final class EdgeTermsTest {
 
     /** "SIZE: 1, and the SIZES of all PARTS (each as often as it stands there)" */
     private static void eachAsOften() {
-        RewriteChecks x = small();
+        RewriteChecks x = three();
         int v = x.variable(7);
         int fvv = x.term(2, v, v);
         int twice = x.term(2, fvv, fvv);
@@ -332,7 +322,7 @@ public final class EdgeTermsTest {
 
     /** "(sizes, weights, counts: up to 10^15; what is above is that)": sizes */
     private static void sizesToTheCap() {
-        RewriteChecks x = small();
+        RewriteChecks x = three();
         int below = ofSize(x, CAP - 1);
         due("SIZE 10^15 - 1", x.of(below, 2, 0), CAP - 1);
         int at = x.term(1, below, 0);
@@ -377,7 +367,7 @@ public final class EdgeTermsTest {
 
     /** The same of counts */
     private static void countsToTheCap() {
-        RewriteChecks x = small();
+        RewriteChecks x = three();
         int below = withCount(x, CAP - 1);
         due("10^15 - 1 times", x.of(below, 4, 6), CAP - 1);
         due("its SIZE is above", x.of(below, 2, 0), CAP);
@@ -390,7 +380,7 @@ public final class EdgeTermsTest {
 
     /** "what is above is that": and what comes of it, without wrapping round */
     private static void beyondTheCap() {
-        RewriteChecks x = small();
+        RewriteChecks x = three();
         int t = x.variable(7);
         for (int k = 0; k < 150; k++) {
             t = x.term(2, t, t);
@@ -406,7 +396,7 @@ public final class EdgeTermsTest {
 
     /** "what = 0 its SIGN (NONE: a VARIABLE), 1 the VARIABLE (NONE), 2 its SIZE, 3 its WEIGHT, 4 .." */
     private static void whatOf() {
-        RewriteChecks x = small();
+        RewriteChecks x = three();
         int v = x.variable(0);
         int g = x.term(1, v, 0);
         for (int wrong : new int[] {LEAST, -2, -1, 5, 6, MOST}) {
@@ -424,7 +414,7 @@ public final class EdgeTermsTest {
 
     /** "BAD: also i not 0 to 7 (what 4)" */
     private static void whichVariableOf() {
-        RewriteChecks x = small();
+        RewriteChecks x = three();
         int v = x.variable(7);
         int w = x.variable(0);
         int f = x.term(2, v, x.term(2, w, v));
@@ -458,7 +448,7 @@ public final class EdgeTermsTest {
     private static void partsOf() {
         RewriteChecks x = new RewriteChecks();
         due("part(0, 0), no TERMS", x.part(0, 0), BAD);
-        RewriteChecks y = small();
+        RewriteChecks y = three();
         int v = y.variable(2);
         int g = y.term(1, v, 0);
         int f = y.term(2, g, 0);
@@ -474,7 +464,7 @@ public final class EdgeTermsTest {
 
     /** "ArrayIndexOutOfBoundsException: it has no such PART." */
     private static void partThrown() {
-        RewriteChecks x = small();
+        RewriteChecks x = three();
         int v = x.variable(0);
         int g = x.term(1, v, 0);
         int f = x.term(2, v, v);
@@ -487,14 +477,14 @@ public final class EdgeTermsTest {
                 }
             }
         }
-        Refusal thrown = new Refusal(CHECK, EdgeTermsTest::small);
+        Refusal thrown = new Refusal(CHECK, EdgeTermsTest::three);
         thrown.due("part(0, 0)", y -> Refusal.partOrThrown(y, 0, 0), Refusal.THROWN);
         thrown.due("part(1, 0)", y -> Refusal.partOrThrown(y, 1, 0), BAD);
     }
 
     /** "How many: 0 SIGNS, 1 TERMS, 2 RULES, 3 PAIRS as told last, 4 VALUES of TABLES (0: none). BAD." */
     private static void counts() {
-        RewriteChecks x = small();
+        RewriteChecks x = three();
         x.rule(0, 0);
         x.rule(0, 0);
         x.pairs();
@@ -512,7 +502,7 @@ public final class EdgeTermsTest {
 
     /** "Nothing is there, as at first: how many TERMS there were." */
     private static void clearOfAll() {
-        RewriteChecks x = small();
+        RewriteChecks x = three();
         int v = x.variable(0);
         int g = x.term(1, v, 0);
         int gg = x.term(1, g, 0);

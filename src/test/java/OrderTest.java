@@ -1,7 +1,5 @@
 /** Promises 10 and 11: which RULES end, which TERM is ABOVE which. */
-public final class OrderTest {
-    private static final int BAD = -2, STATE = -3;
-    private static final Check CHECK = new Check();
+public final class OrderTest extends Dues {
 
     public static void main(String[] args) {
         ends();
@@ -9,10 +7,6 @@ public final class OrderTest {
         parts();
         sizes();
         CHECK.finish();
-    }
-
-    private static void due(String call, long got, long want) {
-        CHECK.due(call, got, want);
     }
 
     private static void ends() {
@@ -101,8 +95,7 @@ public final class OrderTest {
     }
 
     private static void sizes() {
-        RewriteChecks x = new RewriteChecks();
-        x.sign(1, 1);
+        RewriteChecks x = withSigns(1);
         int v = x.variable(0);
         int t = v;
         for (int k = 0; k < 29; k++) {

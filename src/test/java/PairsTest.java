@@ -1,7 +1,5 @@
 /** Promises 12 and 13: PAIRS and which of them are joined. */
-public final class PairsTest {
-    private static final int BAD = -2, FULL = -4, OPEN = -5;
-    private static final Check CHECK = new Check();
+public final class PairsTest extends Dues {
 
     public static void main(String[] args) {
         overlapWithItself();
@@ -21,20 +19,8 @@ public final class PairsTest {
         CHECK.finish();
     }
 
-    private static void due(String call, long got, long want) {
-        CHECK.due(call, got, want);
-    }
-
-    private static void duePair(String name, RewriteChecks x, int k, long... want) {
-        for (int what = 0; what < want.length; what++) {
-            due(name + ", pair(" + k + ", " + what + ")", x.pair(k, what), want[what]);
-        }
-    }
-
     private static void overlapWithItself() {
-        RewriteChecks x = new RewriteChecks();
-        x.sign(1, 1);
-        x.sign(1, 1);
+        RewriteChecks x = withSigns(1, 1);
         int v = x.variable(2);
         int fv = x.term(0, v, 0);
         x.rule(x.term(0, fv, 0), x.term(1, v, 0));
@@ -58,8 +44,7 @@ public final class PairsTest {
     }
 
     private static void associative() {
-        RewriteChecks x = new RewriteChecks();
-        x.sign(2, 1);
+        RewriteChecks x = withSigns(2);
         int a = x.variable(0);
         int b = x.variable(1);
         int c = x.variable(2);
@@ -75,10 +60,7 @@ public final class PairsTest {
 
     /** VARIABLES are numbered along LEFT i, those too that stand in neither TERM of the PAIR. */
     private static void numbering() {
-        RewriteChecks x = new RewriteChecks();
-        x.sign(2, 1);
-        x.sign(1, 1);
-        x.sign(0, 1);
+        RewriteChecks x = withSigns(2, 1, 0);
         int v0 = x.variable(0);
         int v1 = x.variable(1);
         int v3 = x.variable(3);
@@ -89,9 +71,7 @@ public final class PairsTest {
         due("pairs()", x.pairs(), 1);
         duePair("f(g(v), w)", x, 0, 0, 1, 3, x.term(0, c, v1), v1, 0);
         // f(v1, v0) -> v1 against f(g(v3), v1): along f(w, g(u)), w is 0 and u is 1.
-        RewriteChecks y = new RewriteChecks();
-        y.sign(2, 1);
-        y.sign(1, 1);
+        RewriteChecks y = withSigns(2, 1);
         int w1 = y.variable(1);
         int w0 = y.variable(0);
         int w2 = y.variable(2);
@@ -103,9 +83,7 @@ public final class PairsTest {
     }
 
     private static void order() {
-        RewriteChecks x = new RewriteChecks();
-        x.sign(2, 1);
-        x.sign(0, 1);
+        RewriteChecks x = withSigns(2, 0);
         int v = x.variable(0);
         int c = x.term(1, 0, 0);
         int fvc = x.term(0, v, c);
@@ -131,10 +109,7 @@ public final class PairsTest {
 
     /** What stands a second time elsewhere is not replaced. */
     private static void placeAlone() {
-        RewriteChecks x = new RewriteChecks();
-        x.sign(2, 1);
-        x.sign(0, 1);
-        x.sign(0, 1);
+        RewriteChecks x = withSigns(2, 0, 0);
         int a = x.term(1, 0, 0);
         int b = x.term(2, 0, 0);
         x.rule(x.term(0, a, a), b);
@@ -145,17 +120,13 @@ public final class PairsTest {
     }
 
     private static void noUnifier() {
-        RewriteChecks x = new RewriteChecks();
-        x.sign(2, 1);
-        x.sign(1, 1);
+        RewriteChecks x = withSigns(2, 1);
         int v = x.variable(0);
         int w = x.variable(1);
         x.rule(x.term(0, v, x.term(1, v, 0)), v);
         x.rule(x.term(0, w, w), w);
         due("v = g(v)", x.pairs(), 0);
-        RewriteChecks y = new RewriteChecks();
-        y.sign(2, 1);
-        y.sign(1, 1);
+        RewriteChecks y = withSigns(2, 1);
         v = y.variable(0);
         w = y.variable(1);
         int gv = y.term(1, v, 0);
@@ -171,8 +142,7 @@ public final class PairsTest {
     }
 
     private static void sixty() {
-        RewriteChecks x = new RewriteChecks();
-        x.sign(1, 1);
+        RewriteChecks x = withSigns(1);
         int v = x.variable(0);
         int s = x.term(0, v, 0);
         for (int k = 0; k < 8; k++) {
@@ -187,11 +157,7 @@ public final class PairsTest {
     }
 
     private static void joinedNow() {
-        RewriteChecks x = new RewriteChecks();
-        x.sign(0, 1);
-        x.sign(0, 1);
-        x.sign(0, 1);
-        x.sign(1, 1);
+        RewriteChecks x = withSigns(0, 0, 0, 1);
         int a = x.term(0, 0, 0);
         int b = x.term(1, 0, 0);
         int c = x.term(2, 0, 0);
@@ -219,11 +185,7 @@ public final class PairsTest {
 
     /** The second NORMAL would make TERMS; it is asked only if the first one is not OPEN. */
     private static void secondIsNotAsked() {
-        RewriteChecks x = new RewriteChecks();
-        x.sign(0, 1);
-        x.sign(0, 1);
-        x.sign(0, 1);
-        x.sign(1, 1);
+        RewriteChecks x = withSigns(0, 0, 0, 1);
         int a = x.term(0, 0, 0);
         int b = x.term(1, 0, 0);
         int c = x.term(2, 0, 0);
@@ -240,10 +202,7 @@ public final class PairsTest {
     }
 
     private static void fullPairs() {
-        RewriteChecks x = new RewriteChecks();
-        x.sign(0, 1);
-        x.sign(1, 1);
-        x.sign(1, 1);
+        RewriteChecks x = withSigns(0, 1, 1);
         int a = x.term(0, 0, 0);
         int v = x.variable(1);
         int sv = x.term(1, v, 0);
@@ -281,8 +240,7 @@ public final class PairsTest {
 
     /** VARIABLES that double one another: the tree is large, the TERMS are few. */
     private static void largeUnifier() {
-        RewriteChecks x = new RewriteChecks();
-        x.sign(2, 1);
+        RewriteChecks x = withSigns(2);
         int[] v = {x.variable(0), x.variable(1), x.variable(2), x.variable(3)};
         int[] d = new int[4];
         for (int k = 0; k < 4; k++) {
@@ -301,11 +259,7 @@ public final class PairsTest {
 
     /** A telling that is refused behind its first PAIR leaves those of the last telling. */
     private static void fullAtTheSecond() {
-        RewriteChecks x = new RewriteChecks();
-        x.sign(0, 1);
-        x.sign(0, 1);
-        x.sign(1, 1);
-        x.sign(1, 1);
+        RewriteChecks x = withSigns(0, 0, 1, 1);
         int a = x.term(0, 0, 0);
         int b = x.term(1, 0, 0);
         int v = x.variable(1);
@@ -344,9 +298,7 @@ public final class PairsTest {
 
     /** 16 RULES of SIZE 30 on both sides, each of 29 PLACES a try: only those at PLACE 1 fit. */
     private static void manyLargeRules() {
-        RewriteChecks x = new RewriteChecks();
-        x.sign(1, 1);
-        x.sign(1, 1);
+        RewriteChecks x = withSigns(1, 1);
         int v = x.variable(0);
         int inner = x.term(1, v, 0);
         for (int k = 0; k < 28; k++) {
@@ -365,11 +317,7 @@ public final class PairsTest {
     }
 
     private static void byWayZero() {
-        RewriteChecks x = new RewriteChecks();
-        x.sign(2, 1);
-        x.sign(0, 1);
-        x.sign(0, 1);
-        x.sign(0, 1);
+        RewriteChecks x = withSigns(2, 0, 0, 0);
         int v = x.variable(0);
         int w = x.variable(1);
         int a = x.term(1, 0, 0);

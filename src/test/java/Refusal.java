@@ -5,7 +5,6 @@ import java.util.function.ToLongFunction;
 
 /** Refused calls: behind one, an object must tell all that one tells on which it was not done. */
 final class Refusal {
-    static final int NONE = -1, BAD = -2, STATE = -3, FULL = -4, OPEN = -5;
     /** Stands for the exception of part(), which is no answer. */
     static final long THROWN = 1_000_000;
     private static final int MOST_TOLD = 12;
@@ -65,7 +64,7 @@ final class Refusal {
     }
 
     private void tellSteps(List<Long> told, RewriteChecks x) {
-        long many = x.used(NONE, 0);
+        long many = x.used(RewriteChecks.NONE, 0);
         tell(told, "used(NONE, 0)", many);
         for (int k = 0; k < many && k < MOST_TOLD; k++) {
             tell(told, "used(" + k + ", 0)", x.used(k, 0));

@@ -1,7 +1,8 @@
-/** Promises 5 to 9: RULES, STEPS, NORMAL and what was used. */
-public final class StepsTest {
-    private static final int NONE = -1, BAD = -2, STATE = -3, FULL = -4, OPEN = -5;
-    private static final Check CHECK = new Check();
+/**
+ * Promises 5 to 9: RULES, STEPS, NORMAL and what was used. SIGNS are mostly 0 (a, no PARTS), 1 (s,
+ * one), 2 (f, two), 3 (b, none).
+ */
+public final class StepsTest extends Dues {
 
     public static void main(String[] args) {
         rules();
@@ -19,30 +20,8 @@ public final class StepsTest {
         CHECK.finish();
     }
 
-    private static void due(String call, long got, long want) {
-        CHECK.due(call, got, want);
-    }
-
-    /** SIGNS 0 (a, no PARTS), 1 (s, one), 2 (f, two), 3 (b, none). */
-    private static RewriteChecks withSigns() {
-        RewriteChecks x = new RewriteChecks();
-        x.sign(0, 1);
-        x.sign(1, 1);
-        x.sign(2, 1);
-        x.sign(0, 1);
-        return x;
-    }
-
-    private static int nested(RewriteChecks x, int term, int many) {
-        int t = term;
-        for (int k = 0; k < many; k++) {
-            t = x.term(1, t, 0);
-        }
-        return t;
-    }
-
     private static void rules() {
-        RewriteChecks x = withSigns();
+        RewriteChecks x = withSigns(0, 1, 2, 0);
         int v0 = x.variable(0);
         int v3 = x.variable(3);
         int v4 = x.variable(4);
@@ -71,10 +50,10 @@ public final class StepsTest {
     }
 
     private static void ruleSizes() {
-        RewriteChecks x = withSigns();
+        RewriteChecks x = withSigns(0, 1, 2, 0);
         int v = x.variable(0);
-        int size30 = nested(x, v, 29);
-        int size31 = nested(x, v, 30);
+        int size30 = nested(x, 1, v, 29);
+        int size31 = nested(x, 1, v, 30);
         due("rule of SIZE 31", x.rule(size31, v), STATE);
         due("rule to SIZE 31", x.rule(size30, size31), STATE);
         due("rule of SIZE 30", x.rule(size30, size30), 0);
@@ -87,7 +66,7 @@ public final class StepsTest {
     }
 
     private static void onAndOff() {
-        RewriteChecks x = withSigns();
+        RewriteChecks x = withSigns(0, 1, 2, 0);
         int a = x.term(0, 0, 0);
         int b = x.term(3, 0, 0);
         x.rule(a, b);
@@ -102,7 +81,7 @@ public final class StepsTest {
     }
 
     private static void fitting() {
-        RewriteChecks x = withSigns();
+        RewriteChecks x = withSigns(0, 1, 2, 0);
         int v0 = x.variable(0);
         int v1 = x.variable(1);
         int a = x.term(0, 0, 0);
@@ -130,7 +109,7 @@ public final class StepsTest {
     }
 
     private static void ways() {
-        RewriteChecks x = withSigns();
+        RewriteChecks x = withSigns(0, 1, 2, 0);
         int v0 = x.variable(0);
         int v1 = x.variable(1);
         int a = x.term(0, 0, 0);
@@ -163,7 +142,7 @@ public final class StepsTest {
     }
 
     private static void firstRule() {
-        RewriteChecks x = withSigns();
+        RewriteChecks x = withSigns(0, 1, 2, 0);
         int v0 = x.variable(0);
         int a = x.term(0, 0, 0);
         int b = x.term(3, 0, 0);
@@ -181,7 +160,7 @@ public final class StepsTest {
     }
 
     private static void newTerms() {
-        RewriteChecks x = withSigns();
+        RewriteChecks x = withSigns(0, 1, 2, 0);
         int v0 = x.variable(0);
         int v1 = x.variable(1);
         int a = x.term(0, 0, 0);
@@ -206,13 +185,13 @@ public final class StepsTest {
     }
 
     private static void hundredSteps() {
-        RewriteChecks x = withSigns();
+        RewriteChecks x = withSigns(0, 1, 2, 0);
         int v0 = x.variable(0);
         int a = x.term(0, 0, 0);
         int sa = x.term(1, a, 0);
         x.rule(x.term(1, x.term(1, v0, 0), 0), x.term(1, v0, 0));
-        int hundred = nested(x, sa, 100);
-        int more = nested(x, hundred, 1);
+        int hundred = nested(x, 1, sa, 100);
+        int more = nested(x, 1, hundred, 1);
         int before = x.count(1);
         for (int way = 0; way < 2; way++) {
             due("100 STEPS", x.normal(hundred, way), sa);
@@ -243,7 +222,7 @@ public final class StepsTest {
     }
 
     private static void deepPlaces() {
-        RewriteChecks x = withSigns();
+        RewriteChecks x = withSigns(0, 1, 2, 0);
         int a = x.term(0, 0, 0);
         int b = x.term(3, 0, 0);
         x.rule(a, b);
@@ -264,7 +243,7 @@ public final class StepsTest {
 
     /** TERMS whose trees are far too large to be walked, with one PLACE, or very many. */
     private static void manyPlaces() {
-        RewriteChecks x = withSigns();
+        RewriteChecks x = withSigns(0, 1, 2, 0);
         int v = x.variable(0);
         int a = x.term(0, 0, 0);
         int b = x.term(3, 0, 0);
@@ -291,7 +270,7 @@ public final class StepsTest {
     }
 
     private static void fullSteps() {
-        RewriteChecks x = withSigns();
+        RewriteChecks x = withSigns(0, 1, 2, 0);
         int a = x.term(0, 0, 0);
         int sa = x.term(1, a, 0);
         x.rule(a, sa);
@@ -317,7 +296,7 @@ public final class StepsTest {
     }
 
     private static void usedStays() {
-        RewriteChecks x = withSigns();
+        RewriteChecks x = withSigns(0, 1, 2, 0);
         int v = x.variable(0);
         int a = x.term(0, 0, 0);
         int b = x.term(3, 0, 0);

@@ -1,8 +1,8 @@
-/** Promises 14 to 19: TABLES, VALUES, TO JUDGE a RULE. */
-public final class TablesTest {
-    private static final int NONE = -1, BAD = -2, STATE = -3, FULL = -4;
-    private static final int REFUTED = 0, PROVED = 1, TRIED = 2, UNDECIDED = 3;
-    private static final Check CHECK = new Check();
+/**
+ * Promises 14 to 19: TABLES, VALUES, TO JUDGE a RULE. SIGNS are 0 (c, no PARTS), 1 (g, one), 2 (f,
+ * two).
+ */
+public final class TablesTest extends Dues {
 
     public static void main(String[] args) {
         tables();
@@ -20,21 +20,8 @@ public final class TablesTest {
         CHECK.finish();
     }
 
-    private static void due(String call, long got, long want) {
-        CHECK.due(call, got, want);
-    }
-
-    /** SIGNS 0 (c, no PARTS), 1 (g, one), 2 (f, two). */
-    private static RewriteChecks withSigns() {
-        RewriteChecks x = new RewriteChecks();
-        x.sign(0, 1);
-        x.sign(1, 1);
-        x.sign(2, 1);
-        return x;
-    }
-
     private static void tables() {
-        RewriteChecks x = withSigns();
+        RewriteChecks x = withSigns(0, 1, 2);
         due("tables(0)", x.tables(0), BAD);
         due("tables(4)", x.tables(4), BAD);
         due("tables(-1)", x.tables(-1), BAD);
@@ -55,7 +42,7 @@ public final class TablesTest {
     }
 
     private static void cells() {
-        RewriteChecks x = withSigns();
+        RewriteChecks x = withSigns(0, 1, 2);
         due("no TABLES", x.cell(9, 9, 9, 9), STATE);
         x.tables(2);
         due("cell(0, 9, -9, 1)", x.cell(0, 9, -9, 1), 0);
@@ -81,7 +68,7 @@ public final class TablesTest {
     }
 
     private static void variables() {
-        RewriteChecks x = withSigns();
+        RewriteChecks x = withSigns(0, 1, 2);
         due("no TABLES", x.has(99, 99), STATE);
         x.tables(1);
         due("has(0, 1)", x.has(0, 1), 0);
@@ -95,7 +82,7 @@ public final class TablesTest {
     }
 
     private static void values() {
-        RewriteChecks x = withSigns();
+        RewriteChecks x = withSigns(0, 1, 2);
         int v = x.variable(6);
         int c = x.term(0, 0, 0);
         int gv = x.term(1, v, 0);
@@ -123,7 +110,7 @@ public final class TablesTest {
     }
 
     private static void judging() {
-        RewriteChecks x = withSigns();
+        RewriteChecks x = withSigns(0, 1, 2);
         int v = x.variable(0);
         int w = x.variable(1);
         x.rule(x.term(2, v, w), x.term(2, w, v));
@@ -152,7 +139,7 @@ public final class TablesTest {
     }
 
     private static void proving() {
-        RewriteChecks x = withSigns();
+        RewriteChecks x = withSigns(0, 1, 2);
         int v = x.variable(0);
         int c = x.term(0, 0, 0);
         int gv = x.term(1, v, 0);
@@ -181,7 +168,7 @@ public final class TablesTest {
     }
 
     private static void firstRefuted() {
-        RewriteChecks x = withSigns();
+        RewriteChecks x = withSigns(0, 1, 2);
         int[] v = {x.variable(0), x.variable(1), x.variable(2), x.variable(3)};
         int left = x.term(2, x.term(2, v[0], v[1]), x.term(2, v[2], v[3]));
         x.rule(left, x.term(0, 0, 0));
@@ -196,7 +183,7 @@ public final class TablesTest {
         for (int k = 0; k < 4; k++) {
             due("refuted(" + k + ")", x.refuted(k), want[k]);
         }
-        RewriteChecks y = withSigns();
+        RewriteChecks y = withSigns(0, 1, 2);
         int a = y.variable(0);
         int b = y.variable(1);
         y.rule(y.term(2, a, b), y.term(0, 0, 0));
@@ -215,7 +202,7 @@ public final class TablesTest {
     }
 
     private static void notInLeft() {
-        RewriteChecks x = withSigns();
+        RewriteChecks x = withSigns(0, 1, 2);
         int v = x.variable(2);
         int c = x.term(0, 0, 0);
         x.rule(x.term(1, v, 0), c);
@@ -237,7 +224,7 @@ public final class TablesTest {
     }
 
     private static void refutedStays() {
-        RewriteChecks x = withSigns();
+        RewriteChecks x = withSigns(0, 1, 2);
         int v = x.variable(1);
         x.rule(x.term(1, v, 0), v);
         x.tables(2);
@@ -254,7 +241,7 @@ public final class TablesTest {
     }
 
     private static void fullJudge() {
-        RewriteChecks x = withSigns();
+        RewriteChecks x = withSigns(0, 1, 2);
         int c = x.term(0, 0, 0);
         int v = x.variable(0);
         int gv = x.term(1, v, 0);
@@ -282,7 +269,7 @@ public final class TablesTest {
 
     /** By way 0 f(v, w) -> v ends what by way 1 goes on without end. */
     private static void wayZero() {
-        RewriteChecks x = withSigns();
+        RewriteChecks x = withSigns(0, 1, 2);
         int v = x.variable(0);
         int w = x.variable(1);
         int c = x.term(0, 0, 0);
@@ -302,7 +289,7 @@ public final class TablesTest {
     }
 
     private static void manyCalls() {
-        RewriteChecks x = withSigns();
+        RewriteChecks x = withSigns(0, 1, 2);
         int v = x.variable(0);
         int t = v;
         for (int k = 0; k < 29; k++) {

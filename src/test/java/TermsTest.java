@@ -1,8 +1,6 @@
 /** Promises 1 to 4 and 20 to 23: SIGNS, TERMS, what is told of them, clear(). */
-public final class TermsTest {
-    private static final int NONE = -1, BAD = -2, STATE = -3, FULL = -4;
-    private static final long MOST = 1_000_000_000_000_000L;
-    private static final Check CHECK = new Check();
+public final class TermsTest extends Dues {
+    private static final long CAP = 1_000_000_000_000_000L;
 
     public static void main(String[] args) {
         newObject();
@@ -15,10 +13,6 @@ public final class TermsTest {
         fullOfTerms();
         clearing();
         CHECK.finish();
-    }
-
-    private static void due(String call, long got, long want) {
-        CHECK.due(call, got, want);
     }
 
     private static void nothingThere(RewriteChecks x) {
@@ -77,10 +71,7 @@ public final class TermsTest {
     }
 
     private static void terms() {
-        RewriteChecks x = new RewriteChecks();
-        x.sign(0, 1);
-        x.sign(1, 1);
-        x.sign(2, 1);
+        RewriteChecks x = withSigns(0, 1, 2);
         due("term(0, -9, 99)", x.term(0, -9, 99), 0);
         due("term(0, 5, 5)", x.term(0, 5, 5), 0);
         due("term(1, 1, 0)", x.term(1, 1, 0), BAD);
@@ -129,10 +120,7 @@ public final class TermsTest {
     }
 
     private static void parts() {
-        RewriteChecks x = new RewriteChecks();
-        x.sign(0, 1);
-        x.sign(1, 1);
-        x.sign(2, 1);
+        RewriteChecks x = withSigns(0, 1, 2);
         int c = x.term(0, 0, 0);
         int v = x.variable(0);
         int one = x.term(1, v, 0);
@@ -158,18 +146,18 @@ public final class TermsTest {
             t = x.term(0, t, t);
         }
         due("count of 2^49", x.of(t, 4, 3), 1L << 49);
-        due("size of 2^50 - 1", x.of(t, 2, 0), MOST);
-        due("weight", x.of(t, 3, 0), MOST);
+        due("size of 2^50 - 1", x.of(t, 2, 0), CAP);
+        due("weight", x.of(t, 3, 0), CAP);
         int u = x.part(t, 0);
         due("size of 2^49 - 1", x.of(u, 2, 0), (1L << 49) - 1);
-        due("weight of 2^48 (1 + 9) - 9", x.of(u, 3, 0), MOST);
+        due("weight of 2^48 (1 + 9) - 9", x.of(u, 3, 0), CAP);
         int w = x.part(x.part(u, 0), 0);
         due("weight of 2^46 (1 + 9) - 9", x.of(w, 3, 0), 10L * (1L << 46) - 9);
         for (int k = 0; k < 400; k++) {
             t = x.term(0, t, t);
         }
-        due("count beyond", x.of(t, 4, 3), MOST);
-        due("size beyond", x.of(t, 2, 0), MOST);
+        due("count beyond", x.of(t, 4, 3), CAP);
+        due("size beyond", x.of(t, 2, 0), CAP);
         due("other VARIABLE", x.of(t, 4, 2), 0);
         due("normal(t, 0)", x.normal(t, 0), t);
         due("normal(t, 1)", x.normal(t, 1), t);
@@ -184,10 +172,7 @@ public final class TermsTest {
     }
 
     private static void fullOfTerms() {
-        RewriteChecks x = new RewriteChecks();
-        x.sign(0, 1);
-        x.sign(1, 1);
-        x.sign(2, 1);
+        RewriteChecks x = withSigns(0, 1, 2);
         int c = x.term(0, 0, 0);
         int grown = x.term(1, c, 0);
         x.rule(c, grown);
