@@ -323,7 +323,7 @@ public final class RewriteChecks {
 
     /** SIGNS, and TERMS of which no two are the same; PARTS have lower numbers than their TERM. */
     private static final class Terms {
-        private static final int BUCKETS = 1024;
+        private static final int BUCKETS = 256;
 
         int signs;
         int terms;
@@ -339,7 +339,8 @@ public final class RewriteChecks {
         // The newest TERM of each bucket, and the next older one of the same; 1 greater, 0 is none.
         private final int[] newest = new int[BUCKETS];
         private final int[] older = new int[MOST_TERMS];
-        private final long[] often = new long[MOST_TERMS];
+        // What a sweep over TERMS has found of each; every sweep begins anew.
+        final long[] swept = new long[MOST_TERMS];
 
         Terms() {
             for (int h = FIRST_VARIABLE; h < HEADS; h++) {
@@ -409,12 +410,12 @@ public final class RewriteChecks {
                 long sum = 0;
                 if ((variables[t] >> v & 1) == 1) {
                     sum = isVariable(t) ? 1 : 0;
-                    sum += first[t] == NONE ? 0 : often[first[t]];
-                    sum += second[t] == NONE ? 0 : often[second[t]];
+                    sum += first[t] == NONE ? 0 : swept[first[t]];
+                    sum += second[t] == NONE ? 0 : swept[second[t]];
                 }
-                often[t] = sum > MOST_NUMBER ? MOST_NUMBER : sum;
+                swept[t] = sum > MOST_NUMBER ? MOST_NUMBER : sum;
             }
-            return often[term];
+            return swept[term];
         }
 
         private static int bucketOf(int itsHead, int a, int b) {
@@ -493,17 +494,15 @@ public final class RewriteChecks {
         }
     }
 
-    /** Does STEPS. Its stacks are rows, as a TERM may be nested some 1000 deep. */
+    /** Does STEPS. The way to a PLACE is a row, as a TERM may be nested some 1000 deep. */
     private static final class Rewriter {
         private final Terms bank;
         private final Rules rules;
         final Steps done = new Steps();
         // The stamp of the latest run that found no PLACE for a STEP in the TERM.
         private final int[] cleanIn = new int[MOST_TERMS];
-        // The way from the outermost TERM to the one that is looked at, and how many PARTS of each
-        // TERM on it have been entered.
+        // The way from the outermost TERM to the one that is looked at.
         private final int[] path = new int[MOST_TERMS];
-        private final int[] entered = new int[MOST_TERMS];
         private int depth;
         private int stamp;
         private int leftOut;
@@ -562,33 +561,46 @@ public final class RewriteChecks {
         /** The RULE for the next STEP, the path then leading to its PLACE; or NONE. */
         private int search(int term, int way) {
             depth = 0;
-            enter(term);
-            for (int looks = 0; looks < MOST_LOOKS && depth > 0; looks++) {
-                int top = depth - 1;
-                int t = path[top];
-                int arity = bank.arity[bank.head[t]];
-                boolean isDue = way == 0 ? entered[top] == 0 : entered[top] == arity;
-                int rule = isDue ? ruleFor(t) : NONE;
-                if (rule != NONE) {
-                    return rule;
-                }
-                if (entered[top] < arity) {
-                    entered[top]++;
-                    enter(entered[top] == 1 ? bank.first[t] : bank.second[t]);
-                } else {
-                    cleanIn[t] = stamp;
-                    depth--;
-                }
+            int rule = cleanIn[term] == stamp ? NONE : enter(term, way);
+            for (int looks = 0; looks < MOST_LOOKS && depth > 0 && rule == NONE; looks++) {
+                int t = path[depth - 1];
+                int part = nextPart(t);
+                rule = part == NONE ? leave(t, way) : enter(part, way);
             }
-            return NONE;
+            return rule;
         }
 
-        private void enter(int term) {
-            if (cleanIn[term] != stamp && depth < MOST_TERMS) {
-                path[depth] = term;
-                entered[depth] = 0;
-                depth++;
+        /** The first PART that has not been found clean, or NONE. */
+        private int nextPart(int term) {
+            int a = bank.first[term];
+            if (a != NONE && cleanIn[a] != stamp) {
+                return a;
             }
+            int b = bank.second[term];
+            return b != NONE && cleanIn[b] != stamp ? b : NONE;
+        }
+
+        private int enter(int term, int way) {
+            if (depth >= MOST_TERMS) {
+                return NONE;
+            }
+            path[depth] = term;
+            depth++;
+            return way == 0 ? ruleFor(term) : NONE;
+        }
+
+        private int leave(int term, int way) {
+            int rule = way == 1 ? ruleFor(term) : NONE;
+            if (rule == NONE) {
+                cleanIn[term] = stamp;
+                depth--;
+            }
+            return rule;
+        }
+
+        // A PLACE in a PART that stands there twice is in the first one: nextPart() leads there.
+        private boolean isInFirst(int k) {
+            return bank.first[path[k]] == path[k + 1];
         }
 
         private int ruleFor(int term) {
@@ -628,13 +640,13 @@ public final class RewriteChecks {
             int now = instance(rules.right[rule], 1);
             long place = 1;
             for (int k = 0; k < depth - 1; k++) {
-                place = placeOfPart(place, entered[k] - 1);
+                place = placeOfPart(place, isInFirst(k) ? 0 : 1);
             }
             for (int k = depth - 2; k >= 0 && now != FULL; k--) {
                 int t = path[k];
-                boolean inFirst = entered[k] == 1;
-                now = bank.make(bank.head[t], inFirst ? now : bank.first[t],
-                        inFirst ? bank.second[t] : now);
+                now = isInFirst(k)
+                        ? bank.make(bank.head[t], now, bank.second[t])
+                        : bank.make(bank.head[t], bank.first[t], now);
             }
             done.add(rule, place);
             return now;
@@ -792,16 +804,15 @@ public final class RewriteChecks {
 
     /** Makes two nodes of a sheet the same, in the most general way: nodes fall into classes. */
     private static final class Unifier {
-        private static final int MOST_WAITING = 2 * Sheet.NODES;
-
         private final Sheet sheet;
         // A chain to the class's leading node; there a node of the class, with a SIGN if one has.
         private final int[] lead = new int[Sheet.NODES];
         private final int[] shape = new int[Sheet.NODES];
         // Behind unify(): the shape of each node's class.
         final int[] becomes = new int[Sheet.NODES];
-        private final int[] waitingA = new int[MOST_WAITING];
-        private final int[] waitingB = new int[MOST_WAITING];
+        // Two nodes with SIGNS leave one more waiting at most, so this is enough.
+        private final int[] waitingA = new int[Sheet.NODES];
+        private final int[] waitingB = new int[Sheet.NODES];
         private int waiting;
         private final int[] reaches = new int[VARIABLES];
 
@@ -829,7 +840,7 @@ public final class RewriteChecks {
         }
 
         private void await(int a, int b) {
-            if (a != NONE && b != NONE && waiting < MOST_WAITING) {
+            if (a != NONE && b != NONE && waiting < Sheet.NODES) {
                 waitingA[waiting] = a;
                 waitingB[waiting] = b;
                 waiting++;
@@ -958,7 +969,8 @@ public final class RewriteChecks {
         private final boolean[] isMet = new boolean[Sheet.NODES];
         // The TERM that has been made of a node, or NONE.
         private final int[] built = new int[Sheet.NODES];
-        private final int[] stack = new int[2 * Sheet.NODES];
+        // A node is looked into once and leaves one more waiting at most, so this is enough.
+        private final int[] stack = new int[Sheet.NODES];
 
         PairMaker(Terms terms, Rules book) {
             Sheet laidOut = new Sheet(terms);
@@ -1127,11 +1139,6 @@ public final class RewriteChecks {
         // What VARIABLES have while a RULE is judged, and behind that where it was refuted.
         final int[] tried = new int[VARIABLES];
         boolean isRefuted;
-        private final boolean[] isNeeded = new boolean[MOST_TERMS];
-        // The TERMS to be valued, each ahead of its PARTS.
-        private final int[] needed = new int[MOST_TERMS];
-        private int manyNeeded;
-        private final int[] valued = new int[MOST_TERMS];
 
         Tables(Terms terms) {
             bank = terms;
@@ -1150,20 +1157,26 @@ public final class RewriteChecks {
             return was;
         }
 
+        /** By one sweep over all lower numbers, as a TERM's tree may be too large to be walked. */
         int valueOf(int term) {
-            gather(term, term);
-            valueNeeded(given);
-            return valued[term];
+            long[] valued = bank.swept;
+            for (int t = 0; t <= term; t++) {
+                int a = bank.first[t];
+                int b = bank.second[t];
+                valued[t] = bank.isVariable(t)
+                        ? given[bank.head[t] - FIRST_VARIABLE]
+                        : cells[cellAt(bank.head[t], a == NONE ? 0 : (int) valued[a],
+                                b == NONE ? 0 : (int) valued[b])];
+            }
+            return (int) valued[term];
         }
 
         /** Whether LEFT and RIGHT differ somewhere; if so, tried is the first such. */
         boolean refutes(int left, int right) {
-            gather(left, right);
             Arrays.fill(tried, 0);
             boolean isMore = true;
             for (int looks = 0; looks < MOST_LOOKS && isMore; looks++) {
-                valueNeeded(tried);
-                if (valued[left] != valued[right]) {
+                if (triedValueOf(left, 1) != triedValueOf(right, 1)) {
                     return true;
                 }
                 isMore = tryNext(bank.variables[left]);
@@ -1188,37 +1201,17 @@ public final class RewriteChecks {
             return (sign * SIDE + a) * SIDE + b;
         }
 
-        private void gather(int s, int t) {
-            isNeeded[s] = true;
-            isNeeded[t] = true;
-            manyNeeded = 0;
-            for (int n = s > t ? s : t; n >= 0; n--) {
-                if (isNeeded[n]) {
-                    isNeeded[n] = false;
-                    needed[manyNeeded] = n;
-                    manyNeeded++;
-                    need(bank.first[n]);
-                    need(bank.second[n]);
-                }
+        /** VALUE of a RULE's TERM, by what is tried; 0 of a PART that is not there. */
+        private int triedValueOf(int term, int level) {
+            if (term == NONE || level > MOST_SMALL_SIZE) {
+                return 0;
             }
-        }
-
-        private void need(int term) {
-            if (term != NONE) {
-                isNeeded[term] = true;
+            if (bank.isVariable(term)) {
+                return tried[bank.head[term] - FIRST_VARIABLE];
             }
-        }
-
-        private void valueNeeded(int[] having) {
-            for (int k = manyNeeded - 1; k >= 0; k--) {
-                int n = needed[k];
-                int a = bank.first[n];
-                int b = bank.second[n];
-                valued[n] = bank.isVariable(n)
-                        ? having[bank.head[n] - FIRST_VARIABLE]
-                        : cells[cellAt(bank.head[n], a == NONE ? 0 : valued[a],
-                                b == NONE ? 0 : valued[b])];
-            }
+            int a = triedValueOf(bank.first[term], level + 1);
+            int b = triedValueOf(bank.second[term], level + 1);
+            return cells[cellAt(bank.head[term], a, b)];
         }
     }
 }

@@ -28,6 +28,7 @@ public final class EdgeTablesTest extends Dues {
         notInLeft();
         noVariables();
         hasIsNotAsked();
+        largestRules();
         judgeOpen();
         judgeTermsStay();
         lastTermOfJudge();
@@ -41,6 +42,26 @@ public final class EdgeTablesTest extends Dues {
         RewriteChecks x = small();
         x.tables(n);
         return x;
+    }
+
+    /** "neither of SIZE above 30": LEFT and RIGHT nested as deep as can be */
+    private static void largestRules() {
+        RewriteChecks x = withSigns(0, 1, 1);
+        int v = x.variable(0);
+        x.rule(nested(x, 1, v, 29), nested(x, 2, v, 29));
+        x.tables(3);
+        for (int has = 0; has <= 3; has++) {
+            x.cell(1, has, 0, has);
+            x.cell(2, has, 0, has);
+        }
+        due("judge(0), both being what v0 has", x.judge(0), TRIED);
+        x.cell(1, 3, 0, 2);
+        due("judge(0), LEFT not", x.judge(0), REFUTED);
+        due("refuted(0)", x.refuted(0), 3);
+        x.cell(1, 3, 0, 3);
+        x.cell(2, 2, 0, 3);
+        due("judge(0), RIGHT not", x.judge(0), REFUTED);
+        due("refuted(0)", x.refuted(0), 2);
     }
 
     /** "TABLES: n VALUES (1 to 3)" */
